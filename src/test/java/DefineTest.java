@@ -2,28 +2,48 @@
 public final class DefineTest {
     public static void main(String[] args) {
         constants();
+        insteadOfTheOneItHas();
         badFlow();
         badKind();
         badOperands();
-        operandsNotNamedAreNotLookedAt();
-        testsComeInOrder();
-        circles();
-        preClosesNoCircle();
-        circleBrokenByTheNewDefinition();
-        answersHowManyFlowsAreNeeded();
+        sameBadOperandTwice();
+        circle();
+        testsInThisOrder();
         refusedChangesNothing();
-        refusedKeepsTheFirstInstantBehind();
-        definingKeepsTheLastInstant();
+        refusedMovesNoFirstInstant();
+        howManyFlowsItNeeds();
+        whatIsNamedTwiceCountsOnce();
+        fewestAndMost();
+        itselfNotCounted();
         Check.end();
     }
 
     private static void constants() {
+        Check.says("BAD_FLOW = -1, BAD_KIND = -2, CIRCLE = -3");
         Check.due("BAD_FLOW", Metronome.BAD_FLOW, -1);
         Check.due("BAD_KIND", Metronome.BAD_KIND, -2);
         Check.due("CIRCLE", Metronome.CIRCLE, -3);
     }
 
+    private static void insteadOfTheOneItHas() {
+        Check.says("Gives a flow a definition instead of the one it has.");
+        Metronome x = new Metronome();
+        x.define(0, Check.ADD, Check.ab(1, 2), 0);
+        x.define(1, Check.CONST, 0, 7);
+        x.step(4);
+        x.define(0, Check.CONST, Check.ab(1, 2), 8);
+        Check.due("kind(0)", x.kind(0), Check.CONST);
+        Check.due("needs(0, 1)", x.needs(0, 1), false);
+        Check.due("value(0), no instant worked since", x.value(0), 7);
+        Check.due("instants()", x.instants(), 4);
+        Check.due("next(0)", x.next(0), 8);
+        Check.due("kind(1)", x.kind(1), Check.CONST);
+        Check.due("next(1)", x.next(1), 7);
+        Check.due("1 may need 0 now", x.define(1, Check.ADD, Check.ab(0, 0), 0), 1);
+    }
+
     private static void badFlow() {
+        Check.says("flow not in 0 to 17: BAD_FLOW");
         Metronome x = new Metronome();
         for (int flow : Check.NO_FLOWS) {
             Check.due("define(" + flow + ", CONST)", x.define(flow, Check.CONST, 0, 1), Metronome.BAD_FLOW);
@@ -33,8 +53,9 @@ public final class DefineTest {
     }
 
     private static void badKind() {
+        Check.says("kind not in 0 to 8: BAD_KIND");
         Metronome x = new Metronome();
-        int[] kinds = {-1, 9, 10, 32, Integer.MIN_VALUE, Integer.MAX_VALUE};
+        int[] kinds = {-1, 9, 10, 16, 32, 257, Check.LEAST, Check.MOST};
         for (int kind : kinds) {
             Check.due("define(0, " + kind + ")", x.define(0, kind, Check.sab(1, 2, 3), 1), Metronome.BAD_KIND);
         }
@@ -44,109 +65,122 @@ public final class DefineTest {
         }
     }
 
-    private static boolean namesA(int kind) {
-        return kind >= Check.ADD;
-    }
-
-    private static boolean namesB(int kind) {
-        return kind >= Check.ADD && kind <= Check.MUX;
-    }
-
-    private static boolean namesS(int kind) {
-        return kind == Check.MUX || kind == Check.HOLD;
-    }
-
     private static void badOperands() {
+        Check.says("an operand that the kind names is not in 0 to 17: BAD_FLOW");
         Metronome x = new Metronome();
         for (int kind = 0; kind <= 8; kind++) {
-            for (int bad = 17; bad < 32; bad++) {
-                boolean isFlow = bad == 17;
-                boolean a = x.define(0, kind, Check.sab(1, bad, 1), 0) == Metronome.BAD_FLOW;
-                boolean b = x.define(0, kind, Check.sab(1, 1, bad), 0) == Metronome.BAD_FLOW;
-                boolean s = x.define(0, kind, Check.sab(bad, 1, 1), 0) == Metronome.BAD_FLOW;
-                Check.due("kind " + kind + " with a = " + bad + " refused", a, !isFlow && namesA(kind));
-                Check.due("kind " + kind + " with b = " + bad + " refused", b, !isFlow && namesB(kind));
-                Check.due("kind " + kind + " with s = " + bad + " refused", s, !isFlow && namesS(kind));
+            for (int operand = 17; operand < 32; operand++) {
+                boolean bad = operand != 17;
+                boolean a = x.define(0, kind, Check.sab(1, operand, 1), 0) == Metronome.BAD_FLOW;
+                boolean b = x.define(0, kind, Check.sab(1, 1, operand), 0) == Metronome.BAD_FLOW;
+                boolean s = x.define(0, kind, Check.sab(operand, 1, 1), 0) == Metronome.BAD_FLOW;
+                String end = " = " + operand + " refused";
+                Check.due("kind " + kind + " with a" + end, a, bad && Check.namesA(kind));
+                Check.due("kind " + kind + " with b" + end, b, bad && Check.namesB(kind));
+                Check.due("kind " + kind + " with s" + end, s, bad && Check.namesS(kind));
             }
+            boolean zero = x.define(1, kind, Check.sab(0, 0, 0), 0) == Metronome.BAD_FLOW;
+            Check.due("kind " + kind + " with 0 as all refused", zero, false);
+            x.define(1, Check.CONST, 0, 0);
         }
     }
 
-    private static void operandsNotNamedAreNotLookedAt() {
+    private static void sameBadOperandTwice() {
+        Check.says("an operand that the kind names is not in 0 to 17: BAD_FLOW");
         Metronome x = new Metronome();
-        x.define(1, Check.CONST, -1, 6);
-        x.define(2, Check.INPUT, -1, 1);
-        x.define(3, Check.ADD, Check.sab(31, 1, 1) | 0xFFFF8000, 9);
-        x.define(4, Check.PRE, Check.sab(31, 1, 31), 9);
-        x.define(5, Check.HOLD, Check.sab(1, 1, 31), 9);
-        x.input(1, 8);
-        x.step(2);
-        Check.due("CONST 6", x.value(1), 6);
-        Check.due("INPUT 1", x.value(2), 8);
-        Check.due("ADD 1 1", x.value(3), 12);
-        Check.due("PRE 1 9", x.value(4), 6);
-        Check.due("HOLD 1 1 9", x.value(5), 6);
-        Check.due("ADD 1 1 with itself as s", x.define(6, Check.ADD, Check.sab(6, 1, 1), 0), 1);
-        Check.due("HOLD 1 1 with itself as b", x.define(7, Check.HOLD, Check.sab(1, 1, 7), 0), 1);
-        Check.due("CONST with itself as all", x.define(8, Check.CONST, Check.sab(8, 8, 8), 0), 0);
-        Check.due("INPUT with itself as all", x.define(8, Check.INPUT, Check.sab(8, 8, 8), 0), 0);
-    }
-
-    private static void testsComeInOrder() {
-        Metronome x = new Metronome();
-        Check.due("bad flow and kind", x.define(18, 9, 31, 0), Metronome.BAD_FLOW);
-        Check.due("bad kind and operand", x.define(0, 9, 31, 0), Metronome.BAD_KIND);
-        Check.due("bad operand and circle", x.define(0, Check.ADD, Check.ab(0, 18), 0), Metronome.BAD_FLOW);
-        Check.due("bad operand and circle", x.define(0, Check.ADD, Check.ab(31, 0), 0), Metronome.BAD_FLOW);
-        Check.due("PRE of no flow", x.define(0, Check.PRE, Check.a(18), 0), Metronome.BAD_FLOW);
-    }
-
-    private static void circles() {
-        for (int kind = Check.ADD; kind <= Check.HOLD; kind++) {
-            Metronome x = new Metronome();
-            boolean a = x.define(4, kind, Check.sab(1, 4, 1), 0) == Metronome.CIRCLE;
-            boolean b = x.define(4, kind, Check.sab(1, 1, 4), 0) == Metronome.CIRCLE;
-            boolean s = x.define(4, kind, Check.sab(4, 1, 1), 0) == Metronome.CIRCLE;
-            Check.due("kind " + kind + " of itself as a is a circle", a, kind != Check.PRE);
-            Check.due("kind " + kind + " of itself as b is a circle", b, namesB(kind));
-            Check.due("kind " + kind + " of itself as s is a circle", s, namesS(kind));
+        for (int bad = 18; bad < 32; bad++) {
+            int[] twice = {Check.sab(1, bad, bad), Check.sab(bad, bad, 1), Check.sab(bad, 1, bad)};
+            for (int ops : twice) {
+                Check.due("MUX with " + ops, x.define(0, Check.MUX, ops, 0), Metronome.BAD_FLOW);
+            }
+            Check.due("ADD of " + bad + " twice", x.define(0, Check.ADD, Check.ab(bad, bad), 0), Metronome.BAD_FLOW);
+            Check.due("HOLD of " + bad + " twice", x.define(0, Check.HOLD, Check.as(bad, bad), 0), Metronome.BAD_FLOW);
         }
-        longCircle(true);
-        longCircle(false);
     }
 
-    // Both ways round, as a search that goes through the flows in one order may be cut short in the other.
-    private static void longCircle(boolean up) {
+    private static void circle() {
+        Check.says("some flow would need itself: CIRCLE");
         Metronome x = new Metronome();
-        for (int i = 1; i < Check.FLOWS; i++) {
-            int flow = up ? i : 17 - i;
-            int before = up ? i - 1 : 18 - i;
-            Check.due("flow " + flow + " of a chain", x.define(flow, Check.ADD, Check.ab(before, before), 0), i);
-        }
-        int foot = up ? 0 : 17;
-        int head = up ? 17 : 0;
-        Check.due("circle over all", x.define(foot, Check.HOLD, Check.as(head, head), 0), Metronome.CIRCLE);
-        Check.due("PRE over all", x.define(foot, Check.PRE, Check.a(head), 0), 0);
-        Check.due("needs(head, foot)", x.needs(head, foot), true);
-    }
-
-    private static void preClosesNoCircle() {
-        Metronome x = new Metronome();
-        Check.due("PRE of itself", x.define(0, Check.PRE, Check.a(0), 3), 0);
-        Check.due("ADD of itself over PRE", x.define(1, Check.PRE, Check.a(2), 0), 0);
-        Check.due("ADD of itself over PRE", x.define(2, Check.ADD, Check.ab(1, 0), 0), 2);
-        Check.due("ADD in place of that PRE", x.define(1, Check.ADD, Check.ab(2, 0), 0), Metronome.CIRCLE);
-    }
-
-    private static void circleBrokenByTheNewDefinition() {
-        Metronome x = new Metronome();
+        Check.due("0 may not need 0", x.define(0, Check.ADD, Check.ab(0, 1), 0), Metronome.CIRCLE);
         Check.due("0 needs 1", x.define(0, Check.ADD, Check.ab(1, 1), 0), 1);
         Check.due("1 may not need 0", x.define(1, Check.ADD, Check.ab(0, 0), 0), Metronome.CIRCLE);
         Check.due("0 needs 2 instead", x.define(0, Check.ADD, Check.ab(2, 2), 0), 1);
         Check.due("1 may need 0", x.define(1, Check.ADD, Check.ab(0, 0), 0), 2);
         Check.due("2 may not need 1", x.define(2, Check.MUX, Check.sab(5, 6, 1), 0), Metronome.CIRCLE);
+        Check.due("2 may have 1 before", x.define(2, Check.PRE, Check.a(1), 0), 0);
+        Check.due("2 may need 3", x.define(2, Check.MUX, Check.sab(5, 6, 3), 0), 3);
+        Check.due("3 may not need 0", x.define(3, Check.HOLD, Check.as(4, 0), 0), Metronome.CIRCLE);
     }
 
-    private static void answersHowManyFlowsAreNeeded() {
+    private static void testsInThisOrder() {
+        Check.says("Tests in this order");
+        Metronome x = new Metronome();
+        Check.due("bad flow, kind", x.define(18, 9, 0, 0), Metronome.BAD_FLOW);
+        Check.due("bad flow, kind, operands", x.define(-1, -1, -1, 0), Metronome.BAD_FLOW);
+        Check.due("bad flow, operand", x.define(18, Check.ADD, Check.ab(18, 0), 0), Metronome.BAD_FLOW);
+        Check.due("bad kind above, operands", x.define(0, 9, -1, 0), Metronome.BAD_KIND);
+        Check.due("bad kind below, operands", x.define(0, -1, -1, 0), Metronome.BAD_KIND);
+        Check.due("bad kind, itself", x.define(0, 9, Check.sab(0, 0, 0), 0), Metronome.BAD_KIND);
+        Check.due("a itself, b bad", x.define(0, Check.ADD, Check.ab(0, 18), 0), Metronome.BAD_FLOW);
+        Check.due("a bad, b itself", x.define(0, Check.ADD, Check.ab(31, 0), 0), Metronome.BAD_FLOW);
+        Check.due("a itself, s bad", x.define(0, Check.HOLD, Check.as(0, 18), 0), Metronome.BAD_FLOW);
+        Check.due("a and b itself, s bad", x.define(0, Check.MUX, Check.sab(18, 0, 0), 0), Metronome.BAD_FLOW);
+        Check.due("PRE of no flow", x.define(0, Check.PRE, Check.a(18), 0), Metronome.BAD_FLOW);
+    }
+
+    private static void refusedChangesNothing() {
+        Check.says("A refused call changes nothing.");
+        int[][] refused = {
+            {-1, Check.CONST, 0, 99, Metronome.BAD_FLOW},
+            {18, Check.CONST, 0, 99, Metronome.BAD_FLOW},
+            {Check.MOST, Check.INPUT, 0, 99, Metronome.BAD_FLOW},
+            {9, 9, 0, 99, Metronome.BAD_KIND},
+            {4, -1, 0, 99, Metronome.BAD_KIND},
+            {2, Check.LEAST, 0, 99, Metronome.BAD_KIND},
+            {4, Check.PRE, Check.a(18), 99, Metronome.BAD_FLOW},
+            {9, Check.HOLD, Check.as(2, 31), 99, Metronome.BAD_FLOW},
+            {8, Check.MUX, Check.sab(0, 1, 20), 99, Metronome.BAD_FLOW},
+            {3, Check.ADD, Check.ab(2, 18), 99, Metronome.BAD_FLOW},
+            {3, Check.ADD, Check.ab(8, 2), 99, Metronome.CIRCLE},
+            {9, Check.HOLD, Check.as(2, 9), 99, Metronome.CIRCLE},
+            {0, Check.MUL, Check.ab(2, 6), 99, Metronome.CIRCLE},
+            {10, Check.ADD, Check.ab(17, 17), 99, Metronome.CIRCLE},
+        };
+        for (int[] call : refused) {
+            Metronome x = Check.busy();
+            String text = "define(" + call[0] + ", " + call[1] + ", " + call[2] + ", " + call[3] + ")";
+            Check.due(text, x.define(call[0], call[1], call[2], call[3]), call[4]);
+            Check.alike("after " + text, x, Check.busy());
+        }
+        Metronome x = Check.busy();
+        for (int[] call : refused) {
+            x.define(call[0], call[1], call[2], call[3]);
+        }
+        Check.alike("after all refused calls", x, Check.busy());
+    }
+
+    /** Calls for flow 0 that are refused, one by each test that comes after the flow's own. */
+    private static void refusedForFlowZero(Metronome x) {
+        Check.due("bad kind", x.define(0, 9, 0, 60), Metronome.BAD_KIND);
+        Check.due("bad operand", x.define(0, Check.PRE, Check.a(18), 60), Metronome.BAD_FLOW);
+        Check.due("circle", x.define(0, Check.HOLD, Check.as(0, 0), 60), Metronome.CIRCLE);
+    }
+
+    private static void refusedMovesNoFirstInstant() {
+        Check.says("A refused call changes nothing.");
+        Metronome x = new Metronome();
+        x.define(1, Check.CONST, 0, 7);
+        x.step(1);
+        x.define(0, Check.PRE, Check.a(1), 50);
+        refusedForFlowZero(x);
+        Check.due("next(0), its first instant ahead", x.next(0), 50);
+        x.step(1);
+        refusedForFlowZero(x);
+        Check.due("next(0), its first instant behind", x.next(0), 7);
+    }
+
+    private static void howManyFlowsItNeeds() {
+        Check.says("Else answers how many flows it needs over any number of steps");
         Metronome x = new Metronome();
         Check.due("MUX of three", x.define(0, Check.MUX, Check.sab(1, 2, 3), 0), 3);
         Check.due("MUX of one", x.define(4, Check.MUX, Check.sab(5, 5, 5), 0), 1);
@@ -161,43 +195,46 @@ public final class DefineTest {
         Check.due("over others and flow 17", x.define(13, Check.HOLD, Check.as(6, 17), 0), 4);
     }
 
-    private static void refusedChangesNothing() {
+    private static void whatIsNamedTwiceCountsOnce() {
+        Check.says("Else answers how many flows it needs over any number of steps");
         Metronome x = new Metronome();
-        x.define(1, Check.CONST, 0, 5);
-        x.define(0, Check.ADD, Check.ab(1, 1), 0);
-        x.define(0, 9, 0, 1);
-        x.define(0, Check.MUL, Check.ab(2, 18), 1);
-        x.define(0, Check.MUL, Check.ab(0, 3), 1);
-        x.define(0, -1, 0, 1);
-        x.define(1, Check.SUB, Check.ab(0, 0), 1);
-        Check.due("kind(0)", x.kind(0), Check.ADD);
-        Check.due("kind(1)", x.kind(1), Check.CONST);
-        Check.due("needs(0, 1)", x.needs(0, 1), true);
-        Check.due("needs(0, 2)", x.needs(0, 2), false);
-        Check.due("needs(0, 3)", x.needs(0, 3), false);
-        Check.due("needs(1, 0)", x.needs(1, 0), false);
-        Check.due("next(0)", x.next(0), 10);
-        Check.due("next(1)", x.next(1), 5);
+        Check.due("MUX, a and b the same", x.define(0, Check.MUX, Check.sab(1, 2, 2), 0), 2);
+        Check.due("it needs both", x.needs(0, 1) && x.needs(0, 2), true);
+        Check.due("MUX, s and a the same", x.define(0, Check.MUX, Check.sab(3, 3, 4), 0), 2);
+        Check.due("it needs both", x.needs(0, 3) && x.needs(0, 4), true);
+        Check.due("MUX, s and b the same", x.define(0, Check.MUX, Check.sab(5, 6, 5), 0), 2);
+        Check.due("it needs both", x.needs(0, 5) && x.needs(0, 6), true);
+        Check.due("ADD of one", x.define(0, Check.ADD, Check.ab(7, 7), 0), 1);
+        Check.due("it needs that", x.needs(0, 7), true);
+        Check.due("HOLD of one", x.define(0, Check.HOLD, Check.as(8, 8), 0), 1);
+        Check.due("it needs that", x.needs(0, 8), true);
+        // Flow 10 is needed over 11 and over 12.
+        x.define(11, Check.ADD, Check.ab(10, 13), 0);
+        x.define(12, Check.ADD, Check.ab(14, 10), 0);
+        Check.due("SUB of two that need the same", x.define(0, Check.SUB, Check.ab(11, 12), 0), 5);
     }
 
-    private static void refusedKeepsTheFirstInstantBehind() {
+    private static void fewestAndMost() {
+        Check.says("Else answers how many flows it needs over any number of steps");
         Metronome x = new Metronome();
-        x.define(0, Check.PRE, Check.a(1), 50);
-        x.define(1, Check.CONST, 0, 7);
-        x.step(1);
-        x.define(0, Check.PRE, Check.a(18), 60);
-        x.define(0, Check.HOLD, Check.as(0, 0), 60);
-        x.define(0, 9, 0, 60);
-        Check.due("next(0) after refused calls", x.next(0), 7);
+        Check.due("fewest", x.define(16, Check.CONST, 0, 0), 0);
+        for (int flow = 15; flow >= 0; flow--) {
+            int needed = 16 - flow;
+            Check.due("flow " + flow + " of a chain", x.define(flow, Check.MUL, Check.ab(flow + 1, 16), 0), needed);
+        }
+        Check.due("most", x.define(17, Check.MUX, Check.sab(0, 0, 16), 0), 17);
+        Check.due("most, given again", x.define(17, Check.MUX, Check.sab(0, 0, 16), 0), 17);
     }
 
-    private static void definingKeepsTheLastInstant() {
+    private static void itselfNotCounted() {
+        Check.says("itself not counted");
         Metronome x = new Metronome();
-        x.define(0, Check.CONST, 0, 7);
-        x.step(4);
-        x.define(0, Check.CONST, 0, 8);
-        Check.due("value(0)", x.value(0), 7);
-        Check.due("instants()", x.instants(), 4);
-        Check.due("next(0)", x.next(0), 8);
+        Check.due("PRE of itself", x.define(0, Check.PRE, Check.a(0), 0), 0);
+        Check.due("ADD of two", x.define(1, Check.ADD, Check.ab(0, 2), 0), 2);
+        // Flow 2 names flow 1, which needs it, but only as what was before.
+        Check.due("PRE of what needs it", x.define(2, Check.PRE, Check.a(1), 0), 0);
+        Check.due("the ADD again", x.define(1, Check.ADD, Check.ab(0, 2), 0), 2);
+        Check.due("given anew while others need it", x.define(2, Check.ADD, Check.ab(3, 4), 0), 2);
+        Check.due("the ADD over them", x.define(1, Check.ADD, Check.ab(0, 2), 0), 4);
     }
 }

@@ -23,6 +23,7 @@ public final class FaceTest {
             "public int Metronome.next(int)");
 
     public static void main(String[] args) {
+        Check.says("The public face");
         Class<?> face = Metronome.class;
         int modifiers = face.getModifiers();
         Check.due("class is public and final", Modifier.isPublic(modifiers) && Modifier.isFinal(modifiers), true);

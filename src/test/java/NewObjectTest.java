@@ -9,11 +9,11 @@ public final class NewObjectTest {
     }
 
     private static void everyFlowIsConstZero() {
+        Check.says("Every flow is CONST 0");
         Metronome x = new Metronome();
         for (int flow = 0; flow < Check.FLOWS; flow++) {
             Check.due("kind(" + flow + ")", x.kind(flow), Check.CONST);
             Check.due("next(" + flow + ")", x.next(flow), 0);
-            Check.due("value(" + flow + ")", x.value(flow), 0);
             for (int other = 0; other < Check.FLOWS; other++) {
                 Check.due("needs(" + flow + ", " + other + ")", x.needs(flow, other), false);
             }
@@ -25,6 +25,7 @@ public final class NewObjectTest {
     }
 
     private static void everyInputIsZero() {
+        Check.says("every input 0");
         Metronome x = new Metronome();
         for (int k = 0; k < 4; k++) {
             x.define(k, Check.INPUT, 0, k);
@@ -36,22 +37,28 @@ public final class NewObjectTest {
     }
 
     private static void noInstantHasBeenWorked() {
+        Check.says("no instant has been worked");
         Metronome x = new Metronome();
         Check.due("instants()", x.instants(), 0);
         Check.due("step(0)", x.step(0), 0);
+        for (int flow = 0; flow < Check.FLOWS; flow++) {
+            Check.due("value(" + flow + ")", x.value(flow), 0);
+        }
+        x.define(0, Check.PRE, Check.a(0), 6);
+        x.define(1, Check.HOLD, Check.as(2, 2), 7);
+        Check.due("next of PRE", x.next(0), 6);
+        Check.due("next of HOLD", x.next(1), 7);
         Check.due("step(1)", x.step(1), 1);
     }
 
     private static void objectsAreApart() {
-        Metronome x = new Metronome();
+        Check.says("A new object");
+        Metronome x = Check.busy();
         Metronome y = new Metronome();
-        x.define(0, Check.INPUT, 0, 0);
-        x.input(0, 7);
         x.step(2);
-        Check.due("the other's kind(0)", y.kind(0), Check.CONST);
-        Check.due("the other's input(0, 1)", y.input(0, 1), 0);
-        Check.due("the other's instants()", y.instants(), 0);
-        Check.due("the other's value(0)", y.value(0), 0);
-        Check.due("value(0)", x.value(0), 7);
+        int value = x.value(0);
+        Check.alike("beside a used object", y, new Metronome());
+        Check.due("value(0) of the used one", x.value(0), value);
+        Check.due("instants() of the used one", x.instants(), 7);
     }
 }
