@@ -7,6 +7,7 @@ public final class DefineTest {
         badKind();
         badOperands();
         sameBadOperandTwice();
+        badOperandOfPre();
         circle();
         testsInThisOrder();
         refusedChangesNothing();
@@ -95,6 +96,24 @@ public final class DefineTest {
             }
             Check.due("ADD of " + bad + " twice", x.define(0, Check.ADD, Check.ab(bad, bad), 0), Metronome.BAD_FLOW);
             Check.due("HOLD of " + bad + " twice", x.define(0, Check.HOLD, Check.as(bad, bad), 0), Metronome.BAD_FLOW);
+        }
+    }
+
+    // PRE names a, so a must be a flow, also though PRE does not need it.
+    private static void badOperandOfPre() {
+        Check.says("an operand that the kind names is not in 0 to 17: BAD_FLOW; 7 PRE a c");
+        Metronome x = new Metronome();
+        x.define(1, Check.CONST, 0, 6);
+        x.define(0, Check.PRE, Check.a(1), 5);
+        x.step(1);
+        for (int a = 18; a < 32; a++) {
+            Check.due("PRE of " + a, x.define(0, Check.PRE, Check.a(a), 9), Metronome.BAD_FLOW);
+            Check.due("PRE of " + a + " in place of CONST", x.define(2, Check.PRE, Check.a(a), 9), Metronome.BAD_FLOW);
+        }
+        Check.due("next(0) after them", x.next(0), 6);
+        Check.due("kind(2) after them", x.kind(2), Check.CONST);
+        for (int a = 0; a < Check.FLOWS; a++) {
+            Check.due("PRE of " + a, x.define(0, Check.PRE, Check.a(a), 9), 0);
         }
     }
 

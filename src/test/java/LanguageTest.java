@@ -12,14 +12,15 @@ import java.util.List;
 import java.util.Map;
 import java.util.Set;
 import java.util.TreeSet;
+import javax.lang.model.element.Modifier;
 import javax.tools.JavaCompiler;
 import javax.tools.StandardJavaFileManager;
 import javax.tools.ToolProvider;
 
 /**
  * The rules of LANGUAGE.md that can be seen in the program's source; FaceTest has those that reflection sees.
- * It is stricter than they are where the program uses less than they allow: it has for loops alone, no division
- * and no member of anything named by a dot.
+ * It is stricter than they are where the program uses less than they allow: it has for loops alone, no division,
+ * no member of anything named by a dot, constants that are plain numbers, and arrays whose lengths are such constants.
  */
 public final class LanguageTest {
     private static final String SOURCE = "src/main/java/Metronome.java";
@@ -33,6 +34,7 @@ public final class LanguageTest {
             Tree.Kind.ENHANCED_FOR_LOOP, Tree.Kind.MEMBER_SELECT);
 
     private static final Map<String, Set<String>> calls = new HashMap<>();
+    private static final Map<String, Integer> constants = new HashMap<>();
 
     public static void main(String[] args) throws Exception {
         Check.says("LANGUAGE.md");
@@ -62,7 +64,12 @@ public final class LanguageTest {
         for (Tree member : program.getMembers()) {
             switch (member.getKind()) {
                 case VARIABLE -> {
-                    fields += ((VariableTree) member).getModifiers().toString().contains("static") ? 0 : 1;
+                    VariableTree field = (VariableTree) member;
+                    if (field.getModifiers().getFlags().contains(Modifier.STATIC)) {
+                        constantIsANumber(field);
+                    } else {
+                        fields++;
+                    }
                 }
                 case METHOD -> {
                     String name = ((MethodTree) member).getName().toString();
@@ -75,6 +82,15 @@ public final class LanguageTest {
             }
         }
         Check.due("rule 10: more than 40 fields", fields > 40, false);
+    }
+
+    private static void constantIsANumber(VariableTree field) {
+        String number = String.valueOf(field.getInitializer());
+        boolean plain = number.matches("-?[0-9]{1,9}");
+        Check.due("rule 5: " + field + " is a number as it stands", plain, true);
+        if (plain) {
+            constants.put(field.getName().toString(), Integer.parseInt(number));
+        }
     }
 
     private static Set<String> reached(String method) {
@@ -142,6 +158,10 @@ public final class LanguageTest {
             Check.due("rule 4: " + tree + " outside a field's initialiser", method == null, true);
             Check.due("rule 4: dimensions of " + tree, tree.getDimensions().size(), 1);
             Check.due("rule 4: listed elements in " + tree, tree.getInitializers() == null, true);
+            for (ExpressionTree length : tree.getDimensions()) {
+                int places = constants.getOrDefault(length.toString(), 0);
+                Check.due("rule 4: the length of " + tree + " is a constant, 1 or more", places >= 1, true);
+            }
             return super.visitNewArray(tree, unused);
         }
 

@@ -12,6 +12,7 @@ public final class TermsTest {
         pre();
         preOfItselfAndOfEachOther();
         hold();
+        holdInItsFirstInstant();
         firstInstantAfterItWasGiven();
         givenAgainUnchanged();
         firstInstantAfterAReset();
@@ -211,12 +212,40 @@ public final class TermsTest {
             x.step(1);
             Check.due("HOLD in instant " + i, x.value(2), held[i]);
         }
-        x.define(2, Check.HOLD, Check.as(0, 1), 78);
+    }
+
+    // The c stands under the else: where s is not 0 the value is that of a, also in the first instant.
+    private static void holdInItsFirstInstant() {
+        Check.says("HOLD a s c: the value of a if that of s is not 0; else the value that this flow had in the"
+                + " instant before, or c in the definition's first instant");
+        int[] choices = {1, 0, -1, 0, 256, Check.LEAST, Check.MOST};
+        Metronome x = new Metronome();
+        x.define(0, Check.INPUT, 0, 0);
+        x.define(1, Check.INPUT, 0, 1);
+        for (int choice : choices) {
+            x.input(0, 12);
+            x.input(1, choice);
+            x.define(2, Check.HOLD, Check.as(0, 1), 78);
+            holdsFrom("HOLD given with s " + choice, x, choice != 0 ? 12 : 78);
+            x.input(0, 12);
+            x.input(1, choice);
+            x.reset();
+            holdsFrom("HOLD after a reset with s " + choice, x, choice != 0 ? 12 : 78);
+        }
+    }
+
+    /** That flow 2, a HOLD with its first instant ahead, has the value there and holds it when s is 0. */
+    private static void holdsFrom(String when, Metronome x, int value) {
+        Check.due(when + ", next", x.next(2), value);
         x.step(1);
-        Check.due("HOLD in its first instant, s not 0", x.value(2), 12);
+        Check.due(when + ", first instant", x.value(2), value);
+        x.input(0, 13);
         x.input(1, 0);
         x.step(1);
-        Check.due("HOLD in its second instant, s 0", x.value(2), 12);
+        Check.due(when + ", second instant, s 0", x.value(2), value);
+        x.input(1, 1);
+        x.step(1);
+        Check.due(when + ", third instant, s 1", x.value(2), 13);
     }
 
     private static void firstInstantAfterItWasGiven() {
